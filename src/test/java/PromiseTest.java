@@ -691,10 +691,31 @@ public final class PromiseTest {
         check.is("19: highest of " + what, high, () -> x.bound(0, store, true));
     }
 
+    /** Sets the cauldron e up with these bounds, and with drams in it that the next bounds hold too. */
+    private void boundsOfE(int low, int high, int many) {
+        x.bounds(4, -99, 99);
+        x.pour(4, many);
+        x.bounds(4, low, high);
+    }
+
+    private void typesBoth(String what, boolean due) {
+        check.is("16: " + what, due, () -> x.types(0));
+        check.is("17: " + what, due, () -> x.typesAgain(0));
+    }
+
+    /** Looks whether the drams of the text fit just so, in a cauldron of these bounds and in no narrower one. */
     private void bounded(String text, int low, int high) {
         x.erase(0);
-        write(text);
+        write(text + "=e");
+        boundsOfE(low, high, low);
+        typesBoth(text, true);
         isBounded(text, 0, low, high);
+        if (low < high) {
+            boundsOfE(low, high - 1, low);
+            typesBoth(text + " below the highest", false);
+            boundsOfE(low + 1, high, high);
+            typesBoth(text + " above the lowest", false);
+        }
     }
 
     private void bound() {
@@ -703,28 +724,39 @@ public final class PromiseTest {
         x.drams(-99, 99);
         x.broth();
         x.drams(2, 7);
+        x.drams(-99, 99);
         write("1=a");
-        bounded("a=b", -3, 5);
-        bounded("17=b", 17, 17);
-        bounded("ad+=b", -1, 12);
-        bounded("ad-=b", -10, 3);
-        bounded("da-=b", -3, 10);
-        bounded("ad*=b", -21, 35);
-        bounded("aa*=b", -15, 25);
-        bounded("a0003-*=b", -15, 9);
-        bounded("00d-a*=b", -35, 21);
-        bounded("00d-00d-*=b", 4, 49);
-        bounded("c!=b", -99, 99);
-        bounded("c!0*=b", 0, 0);
-        bounded("1=ba=bc=cd=b", 1, 1);
-        isBounded("a second store", 1, -3, 5);
-        isBounded("a fourth store", 3, 2, 7);
+        bounded("a", -3, 5);
+        bounded("17", 17, 17);
+        bounded("07", 7, 7);
+        bounded("ad+", -1, 12);
+        bounded("ad-", -10, 3);
+        bounded("da-", -3, 10);
+        bounded("ad*", -21, 35);
+        bounded("aa*", -15, 25);
+        bounded("a0003-*", -15, 9);
+        bounded("00d-a*", -35, 21);
+        bounded("a00d-*", -35, 21);
+        bounded("00d-00d-*", 4, 49);
+        bounded("dd*", 4, 49);
+        bounded("d00d-*", -49, -4);
+        bounded("00d-d*", -49, -4);
+        bounded("c!", -99, 99);
+        bounded("c!0*", 0, 0);
+        bounded("a" + "~!".repeat(11), -99, 99);
+        x.erase(0);
+        write("1=ba=bc=cd=b");
+        isBounded("the first store", 0, 1, 1);
+        isBounded("the second store", 1, -3, 5);
+        isBounded("the fourth store", 3, 2, 7);
         check.noElement("19: broth", () -> x.bound(0, 2, true));
         check.noElement("19: no store 4", () -> x.bound(0, 4, true));
         check.noElement("19: no store -1", () -> x.bound(0, -1, false));
         check.outside("19: none at 1", () -> x.bound(1, 0, true));
         check.outside("19: none at -1", () -> x.bound(-1, 0, true));
-        bounded("da=b=b", -3, 5);
+        x.erase(0);
+        write("da=b=b");
+        isBounded("the last spoon", 0, -3, 5);
         isBounded("the spoon below", 1, 2, 7);
         fault("a=bb=a", 3);
     }
@@ -778,6 +810,14 @@ public final class PromiseTest {
         check.is("23: at the last store", 19, () -> x.boils(2));
         x.pour(0, 3);
         wouldBoth(2, 0, 96);
+        x.erase(0);
+        write("a" + "~!".repeat(11) + "=b");
+        wouldBoth(2, 1, 3);
+        x.erase(1);
+        write("3a4aa-*+*=b");
+        wouldBoth(2, 1, 9);
+        x.erase(0);
+        write("aa+=a".repeat(5));
         check.is("21: counts nothing", 0, () -> x.account(6));
         check.noElement("21: keeps no reason", () -> x.reason(false, false));
         check.outside("21: no spell 3", () -> x.would(3, 0));
@@ -1119,5 +1159,23 @@ public final class PromiseTest {
         check.is("39: the newer one", 0, x::restore);
         check.is("39: has no spell", 0, () -> x.account(1));
         check.is("39: but two cauldrons", 2, () -> x.account(0));
+        restoreKinds();
+    }
+
+    private void restoreKinds() {
+        fresh();
+        x.broth();
+        x.drams(3, 4);
+        x.save();
+        x.undo();
+        x.undo();
+        x.drams(-7, 7);
+        x.broth();
+        check.is("39: without spells", 0, x::restore);
+        check.is("39: broth again", 1, () -> x.cauldronOf(0, 0));
+        check.is("39: its lowest", -99, () -> x.cauldronOf(0, 1));
+        check.is("39: drams again", 0, () -> x.cauldronOf(1, 0));
+        check.is("39: its highest", 4, () -> x.cauldronOf(1, 2));
+        check.is("39: what is in it", 3, () -> x.cauldronOf(1, 3));
     }
 }

@@ -1004,7 +1004,7 @@ public final class CauldronTypes {
         static int bitsOf(float number) {
             boolean isNegative = isNegative(number);
             double rest = isNegative ? -(double) number : (double) number;
-            int sign = isNegative ? Integer.MIN_VALUE : 0;
+            int sign = isNegative ? 1 << 31 : 0;
             if (rest == 0.0) {
                 return sign;
             }
@@ -1019,7 +1019,7 @@ public final class CauldronTypes {
         static long longBitsOf(double number) {
             boolean isNegative = isNegative(number);
             double rest = isNegative ? -number : number;
-            long sign = isNegative ? Long.MIN_VALUE : 0L;
+            long sign = isNegative ? 1L << 63 : 0L;
             if (rest == 0.0) {
                 return sign;
             }

@@ -148,7 +148,7 @@ public final class LanguageTest {
     private void source() throws IOException {
         String source = Files.readString(new File("src/main/java/CauldronTypes.java").toPath());
         for (String word : new String[] {"try {", "catch", "finally", "synchronized", "assert ", "->", "::",
-            "Float.", "Double.", "package "}) {
+            "Float.", "Double.", "MIN_VALUE", "MAX_VALUE", "package "}) {
             check.same("no " + word, false, source.contains(word));
         }
         check.same("ASCII alone", true, source.chars().allMatch(sign -> sign < 127));
